@@ -66,7 +66,8 @@ public final class GuidedProbes {
         page.clear();
         boardsRead++;
         faultNow = 0;
-        simulateAll();
+        simulateFaults();
+        simulateNow();
         return wiring.nodes;
     }
 
@@ -77,7 +78,8 @@ public final class GuidedProbes {
         ticking.read(page);
         page.clear();
         stimuliRead++;
-        simulateAll();
+        simulateFaults();
+        simulateNow();
         return ticking.ticks;
     }
 
@@ -252,7 +254,7 @@ public final class GuidedProbes {
     }
 
     /** Another BOARD or STIMULUS changes what each FAULT would show, not only what is so NOW. */
-    private void simulateAll() {
+    private void simulateFaults() {
         simulation.run(0, good);
         faults.list(wiring);
         for (int index = 0; index < faults.size; index++) {
@@ -261,7 +263,6 @@ public final class GuidedProbes {
             faults.unlike[index] = now.unlikeNodes(good);
         }
         suspected.learn(faults);
-        simulateNow();
     }
 
     private void simulateNow() {
@@ -534,41 +535,29 @@ public final class GuidedProbes {
             for (int tick = 0; tick < stimulus.ticks; tick++) {
                 System.arraycopy(values, 0, valuesAhead, 0, MOST_NODES);
                 // Ds first: GATES ahead of a D may be driven by it.
-                setDelays(tick);
-                setOthers(tick);
+                setNodes(true, tick);
+                setNodes(false, tick);
                 for (int node = 0; node < board.nodes; node++) {
                     into.add(tick, node, values[node]);
                 }
             }
         }
 
-        private void setDelays(int tick) {
+        private void setNodes(boolean areDelays, int tick) {
             for (int node = 0; node < board.nodes; node++) {
-                if (board.kinds[node] == DELAY) {
-                    values[node] = valueByFault(node, tick);
+                if ((board.kinds[node] == DELAY) == areDelays) {
+                    values[node] = value(node, tick);
                 }
             }
         }
 
-        private void setOthers(int tick) {
-            for (int node = 0; node < board.nodes; node++) {
-                if (board.kinds[node] != DELAY) {
-                    values[node] = valueByFault(node, tick);
-                }
-            }
-        }
-
-        private int valueByFault(int node, int tick) {
+        private int value(int node, int tick) {
             if (fault == STUCK_AT_0 + MOST_PINS * node) {
                 return 0;
             }
             if (fault == STUCK_AT_1 + MOST_PINS * node) {
                 return 1;
             }
-            return value(node, tick);
-        }
-
-        private int value(int node, int tick) {
             switch (board.kinds[node]) {
                 case INPUT: return stimulus.bit(tick, node);
                 case AND: return pinValue(node, 0, values) & pinValue(node, 1, values);
@@ -584,8 +573,8 @@ public final class GuidedProbes {
             if (fault == OPEN + MOST_PINS * node + pin) {
                 return 1;
             }
-            int driver = board.driver(node, pin);
-            return board.has(driver) ? from[driver] : 0;
+            // A driver is below MOST_NODES: no BOARD is read in which it is not.
+            return from[board.drivers[MOST_PINS * node + pin]];
         }
     }
 

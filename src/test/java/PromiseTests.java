@@ -11,6 +11,7 @@ public final class PromiseTests {
         fault();
         board();
         boardDrivers();
+        boardBehindOthers();
         stimulus();
         hurt();
         nodeOfGates();
@@ -237,6 +238,30 @@ public final class PromiseTests {
         reads("4" + repeated(";N0", 7) + ";Db", 12);
     }
 
+    /** Nothing of a text or BOARD that is gone may be left in the next one. */
+    private static void boardBehindOthers() {
+        GuidedProbes x = new GuidedProbes();
+        type(x, "1;N0;N0");
+        x.blank();
+        type(x, "1;N0");
+        due("board() where a longer text was", x.board(), 2);
+        type(x, "1;D1;D2");
+        due("board()", x.board(), 3);
+        type(x, "3;N1");
+        due("board() of more INPUTS", x.board(), 4);
+        due("kind of 1", x.node(1, 0), 0);
+        due("kind of 2", x.node(2, 0), 0);
+        due("kind of 3", x.node(3, 0), 4);
+        due("driver of 1", x.node(1, 1), NONE);
+        type(x, "1;D1;D2");
+        due("fault(false)", x.fault(false), 7);
+        x.blank();
+        type(x, "2;N");
+        due("board() that is not whole", x.board(), STATE);
+        due("kind of 1", x.node(1, 0), 0);
+        due("nodes", x.count(0) + x.count(1), 4);
+    }
+
     private static void stimulus() {
         promise = "6";
         GuidedProbes x = with("1;N0", "01");
@@ -262,6 +287,10 @@ public final class PromiseTests {
         type(x, "01234567890123456");
         due("stimulus() of 17", x.stimulus(), STATE);
         due("TICKS", x.count(3), 1);
+        due("blank()", x.blank(), 17);
+        type(x, "01");
+        due("stimulus() where a longer text was", x.stimulus(), 2);
+        due("HISTORY GOOD 0", x.node(0, 3), 0b10);
         GuidedProbes y = with("4;N0", "124865");
         due("INPUT 0", y.node(0, 3), 0b100001);
         due("INPUT 1", y.node(1, 3), 0b010010);
@@ -491,7 +520,11 @@ public final class PromiseTests {
         suspectsAre(with("1;N0", "0"), 3, 0, 1, 3, 2);
         suspectsAre(boardAlone("1;N0"), 0, NONE, 0, 0, 0);
         // In TICK 0 only 200 (NODE 0) and 202 (NODE 1) show: each NODE parts them.
-        suspectsAre(with("1;D0", "0"), 2, 0, 1, 2, 1);
+        GuidedProbes y = with("1;D0", "0");
+        suspectsAre(y, 2, 0, 1, 2, 1);
+        y.hurt(200);
+        y.probe(0);
+        suspectsAre(y, 1, NONE, 0, 0, 1);
     }
 
     private static void suspectsOfLikeSplits() {
