@@ -573,8 +573,8 @@ public final class GuidedProbes {
             if (fault == OPEN + MOST_PINS * node + pin) {
                 return 1;
             }
-            // A driver is below MOST_NODES: no BOARD is read in which it is not.
-            return from[board.drivers[MOST_PINS * node + pin]];
+            int driver = board.drivers[MOST_PINS * node + pin];
+            return board.has(driver) ? from[driver] : 0;
         }
     }
 
