@@ -53,8 +53,10 @@ public final class Promise01NewObject {
 
     static void hasCountedNothing() {
         GuidedProbes x = new GuidedProbes();
+        GuidedProbes second = new GuidedProbes();
         for (int what = 0; what <= 9; what++) {
             Check.due("count(" + what + ")", x.count(what), 0);
+            Check.due("count(" + what + ") of a second one", second.count(what), 0);
         }
         Check.due("forget()", x.forget(), 0);
     }

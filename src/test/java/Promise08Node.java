@@ -130,6 +130,12 @@ public final class Promise08Node {
         Check.due("D by a D ahead of it", x.node(4, 3), 0b00100);
     }
 
+    static void aDelayByTheLastNode() {
+        GuidedProbes x = Check.with("4;Db" + Check.repeated(";N0", 7), "0101");
+        Check.due("HISTORY of 11", x.node(11, 3), 0b0101);
+        Check.due("HISTORY of the D by 11", x.node(4, 3), 0b1010);
+    }
+
     static void theLastTickGoesNowhere() {
         Check.due("D of a last 1", Check.with("1;D0", SIXTEENTH_ALONE).node(1, 3), 0);
         Check.due("D of a last 1 but one", Check.with("1;D0", "0000000000000010").node(1, 3), 32768);

@@ -72,10 +72,24 @@ public final class Promise12Suspects {
     }
 
     static void thereMayBe40() {
-        GuidedProbes x = Check.with(Check.GREATEST_BOARD, Check.ITS_STIMULUS);
-        // Each GATE is BAD by eight of them, each INPUT by two.
-        are("", x, 40, 4);
-        Check.due("suspect(39, 0)", x.suspect(39, 0), 323);
+        // Each GATE is BAD by eight of them, each INPUT by two. NEXT are 4, 5, 6 and so on, as long as none is BAD:
+        // the four of each GATE's own stay together, those of an INPUT are parted by two GATES and an INPUT.
+        are("", Check.with(Check.GREATEST_BOARD, Check.ITS_STIMULUS), 40, 4, 7, 4 * (3 + 2 + 4 + 3 + 3 + 4 + 5 + 6 + 7 + 7), 4);
+    }
+
+    static void aProbeOfTheLastNodeCounts() {
+        GuidedProbes x = Check.hurt(Check.with(Check.GREATEST_BOARD, Check.ITS_STIMULUS), 323);
+        Check.due("probe(11)", x.probe(11), 1);
+        // Four of INPUTS 2 and 3, which NEXT parts from its own four; NODE 2 parts the former.
+        are(" where 11 is BAD", x, 8, 5, 2, 4 * 2 + 4 * 1, 4);
+    }
+
+    static void theLastNodeMayBeNext() {
+        // NODE 10 is BAD by each three FAULTS of 10 and 11, NODE 11 by its own.
+        GuidedProbes x = Check.hurt(Check.with("4" + Check.repeated(";N1", 6) + ";Nb;D0", "0101"), 120);
+        x.probe(10);
+        x.probe(0);
+        are(" where 10 is BAD, 0 is not", x, 6, 11, 1, 6, 3);
     }
 
     static void oneIsNotSplit() {

@@ -72,6 +72,9 @@ public final class Promise13Suspect {
         for (int pin = 0; pin < 16; pin++) {
             Check.due("suspect(" + (24 + pin) + ", 0)", x.suspect(24 + pin, 0), 308 + pin);
         }
+        // NEXT are 4 to 10; NODE 11 would be BAD by all four that are left then.
+        Check.due("suspect(39, 1)", x.suspect(39, 1), 4);
+        Check.due("suspect(39, 2)", x.suspect(39, 2), 7);
         Check.due("suspect(40, 0)", x.suspect(40, 0), Check.UNKNOWN);
     }
 
